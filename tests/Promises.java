@@ -86,6 +86,16 @@ public final class Promises {
     due("to 400", x.feed(0, 0, 0x00006100, 0, 0), 400);
     due("401 are too many", x.feed(0, 0, 0, 0, 1), NO);
     due("none more", x.feed(0, 0, 0, 0, 0), 400);
+    x = new LeapJoin();
+    for (int i = 1; i <= 19; i++) x.feed(0x61616161, 0x61616161, 0x61616161, 0x61616161, 0x61616161);
+    x.feed(0x61616161, 0x61616161, 0x61616161, 0x61616161, 0);
+    due("to 396", x.count(2), 396);
+    due("401 are too many", x.feed(0x61616161, 0x61, 0, 0, 0), NO);
+    due("401 are too many", x.feed(0x61, 0x61616161, 0, 0, 0), NO);
+    due("401 are too many", x.feed(0x61, 0, 0x61616161, 0, 0), NO);
+    due("401 are too many", x.feed(0x61, 0, 0, 0x61616161, 0), NO);
+    due("401 are too many", x.feed(0x61, 0, 0, 0, 0x61616161), NO);
+    due("one of each", x.feed(0, 0x61, 0x6100, 0x610000, 0x61000000), 400);
     // of each number the highest byte first
     x = new LeapJoin();
     due("feed", x.feed(0x613A3132, 0, 0, 0, 0), 4);

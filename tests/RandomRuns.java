@@ -13,7 +13,7 @@ import java.util.TreeSet;
 
 /** Random runs of calls (fixed seeds), each answer beside that of a plain model written after the document. */
 public final class RandomRuns {
-  private static final int RUNS = 2500;
+  private static final int RUNS = 6000;
   private static int wrong = 0;
 
   /** All that acts change, copied whole for each act. */
