@@ -456,6 +456,16 @@ public final class Boundaries {
     of("2", "A TABLE has letters (in the order told)", () -> {
       LeapJoin x = told("dab:1,2,3");
       for (int k = 0; k < 4; k++) due("row(0, " + k + ")", x.row(0, k), new int[] {2, 3, NO, 1}[k]);
+      String[] orders = {"abc", "acb", "bac", "bca", "cab", "cba"};
+      for (String letters : orders) for (int n : new int[] {0, 6, 12, 23}) {
+        LeapJoin y = told(letters + ":0,64,98/98,0,64");
+        if (n > 0) y.order(n);
+        for (int first : new int[] {0, 98}) {
+          int[] v = {7, 7, 7, 7};
+          for (int c = 0; c < 3; c++) v[letters.charAt(c) - 'a'] = first == 0 ? new int[] {0, 64, 98}[c] : new int[] {98, 0, 64}[c];
+          due("the row of " + first + " of " + letters + " by order " + n, y.has(v[0], v[1], v[2], v[3]), true);
+        }
+      }
     });
     of("2", "(0 abcd, 1 abdc, .. 23 dcba; 0 at first)", () -> {
       LeapJoin x = told("a:1/2;b:1/2;c:1/2;d:1/2");
