@@ -2005,7 +2005,9 @@ public final class Boundaries {
 
   public static void main(String[] args) throws Exception {
     Path doc = Path.of(System.getProperty("leapjoin.doc", "../shared/DOC.md"));
-    List<String> failures = failures(Files.isReadable(doc) ? Files.readString(doc) : null);
+    boolean there = Files.isReadable(doc);
+    if (!there) System.out.println("the document is not there: the words are not looked up");
+    List<String> failures = failures(there ? Files.readString(doc) : null);
     for (int i = 0; i < Math.min(failures.size(), 40); i++) System.out.println(failures.get(i));
     System.out.println(CASES.size() + " sentences, " + checks + " checks, " + failures.size() + " wrong");
     if (!failures.isEmpty()) System.exit(1);
